@@ -1071,6 +1071,9 @@ public final class StairCount {
 
         private void readLine() {
             int word = kind();
+            if (word >= Tokens.PERSON && word <= Tokens.FALL) {
+                flightsOver = true;
+            }
             switch (word) {
                 case Tokens.FLIGHT:
                     readFlight();
@@ -1165,7 +1168,6 @@ public final class StairCount {
         }
 
         private void readPerson() {
-            flightsOver = true;
             takeWord(plan.people, MOST_PEOPLE);
             int name = value();
             if (kind() != Tokens.NAME) {
@@ -1185,7 +1187,6 @@ public final class StairCount {
         }
 
         private void readTally(int side) {
-            flightsOver = true;
             advance();
             int person = knownPerson();
             int flight = look(0, plan.flights - 1);
@@ -1200,7 +1201,6 @@ public final class StairCount {
         }
 
         private void readLadder() {
-            flightsOver = true;
             takeWord(plan.ladders, MOST_LADDERS);
             int from = number(0, plan.flights);
             int to = look(0, plan.flights);
@@ -1218,7 +1218,6 @@ public final class StairCount {
         }
 
         private void readGoing(int word) {
-            flightsOver = true;
             takeWord(plan.goings, MOST_GOINGS);
             int person = knownPerson();
             int hour = number(0, HOURS - 1);

@@ -59,6 +59,9 @@ public final class DoneTest {
         x = Due.of("flight 3;flight 3;person a 0 9;law will 0/floor;");
         // an ERROR is 1, then 0
         Due.is("will with an ERROR", x.walk(0, 2), 1);
+        x = Due.of("flight 3;flight 3;person a 0 9;had a 0 2;had a 1 3;law will tally=2;");
+        Due.is("will by TALLY", x.walk(0, 2), 1);
+        x.walk(0, 0);
         Due.is("down asks for no will", x.walk(0, 0), 0);
     }
 
@@ -213,7 +216,14 @@ public final class DoneTest {
             x.go(18);
             Due.is("FELL by the same numbers, slip " + slip, x.count(9), fell);
         }
-        StairCount x = Due.of("slip 100;flight 1;person a 0 9;go a 0 1;go a 1 1;");
+        long seed = 0;
+        while ((seed * 1103515245 + 12345) % (1L << 31) / 65536 % 100 != 99) {
+            seed++;
+        }
+        StairCount x = Due.of("slip 99;seed " + seed + ";flight 1;person a 0 9;go a 0 1;");
+        x.go(1);
+        Due.is("slip 99 and number 99", x.count(9), 0);
+        x = Due.of("slip 100;seed " + seed + ";flight 1;person a 0 9;go a 0 1;go a 1 1;");
         x.go(2);
         Due.is("slip 100", x.count(9), 2);
         x = Due.of("slip 0;flight 1;person a 0 9;go a 0 1;");
@@ -263,7 +273,7 @@ public final class DoneTest {
     }
 
     private static void images() {
-        StairCount x = Due.of("flight 3;person a 0 9;person b 0 2;go a 1 1;rope a 2 0;".replace("rope a 2 0;", "go b 1 1;"));
+        StairCount x = Due.of("flight 3;person a 0 9;person b 0 2;go a 1 1;go b 1 1;");
         Due.is("no IMAGE", x.back(), -1);
         x.go(1);
         Due.is("keep", x.keep(), 1);

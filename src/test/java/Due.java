@@ -68,7 +68,6 @@ final class Due {
         return x;
     }
 
-    /** The FAULT of a TEXT and its place, as 1000 FAULTS and the place. */
     static void fault(String text, int fault, int place) {
         StairCount x = new StairCount();
         is("text(" + text + ")", text(x, text), StairCount.NONE);

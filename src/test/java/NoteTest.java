@@ -9,6 +9,7 @@ public final class NoteTest {
     public static void main(String[] args) {
         notes();
         strikes();
+        strikesOnly();
         knowing();
         hads();
         asks();
@@ -21,10 +22,11 @@ public final class NoteTest {
         Due.are("no such note", new long[] {x.note(0, 0, 0, true), x.note(41, 0, 0, true), x.note(1, 2, 0, true), x.note(1, -1, 0, true),
             x.note(1, 0, 3, true), x.note(1, 0, -1, true)}, -1, -1, -1, -1, -1, -1);
         for (int i = 0; i < 23; i++) {
-            Due.is("note", x.note(40, i % 2, 2, false), i);
+            Due.is("note", x.note(40, 1, 2, false), i);
         }
         Due.is("strike", x.strike(22), 23);
         Due.are("24 at most", new long[] {x.note(1, 0, 0, true), x.strike(0), x.count(11)}, -1, -1, 24);
+        Due.is("hads by 24", x.hads(1, 1), ALL);
         Due.is("known(24)", x.known(24), true);
         Due.is("known(25)", x.known(25), false);
     }
@@ -39,6 +41,23 @@ public final class NoteTest {
         Due.are("strike(3)", new long[] {x.strike(3), x.hads(1, 1)}, 5, ALL);
         Due.are("strike its own number", new long[] {x.strike(6), x.count(11)}, -1, 6);
         Due.are("STRUCK twice", new long[] {x.strike(0), x.strike(6), x.hads(1, 1)}, 6, 7, ALL);
+    }
+
+    /** What strikes says nothing of anybody, also where a NOTE of an earlier TEXT stood. */
+    private static void strikesOnly() {
+        String tells = "flight 3;person a 0 9;";
+        StairCount x = Due.of(tells);
+        x.note(1, 0, 0, true);
+        x.strike(0);
+        Due.is("nothing is known", x.hads(0, 0), ALL);
+        x.note(1, 0, 1, true);
+        x.note(1, 0, 1, true);
+        Due.text(x, tells);
+        x.note(1, 0, 0, true);
+        x.strike(0);
+        x.strike(1);
+        x.strike(2);
+        Due.is("nothing is known of what was", x.hads(0, 0), ALL);
     }
 
     private static void knowing() {

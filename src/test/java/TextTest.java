@@ -6,6 +6,8 @@ public final class TextTest {
         taking();
         staying();
         starting();
+        oneBehindAnother();
+        cutShort();
         tokens();
         limits();
         toldAlready();
@@ -104,7 +106,7 @@ public final class TextTest {
     }
 
     private static void starting() {
-        StairCount x = Due.of("flight 2;person a 0 9;had a 0 2;go a 0 1;rope a 0 0;".replace("rope a 0 0;", "") + "slip 30;seed 9;");
+        StairCount x = Due.of("flight 2;person a 0 9;had a 0 2;go a 0 1;slip 30;seed 9;");
         x.walk(0, 1);
         x.note(1, 0, 1, true);
         x.known(0);
@@ -124,6 +126,45 @@ public final class TextTest {
         Due.is("nothing to undo", x.undo(), -1);
         Due.is("no IMAGE", x.back(), -1);
         Due.is("no slip", x.sure(1, 1), 1);
+    }
+
+    /** What one TEXT tells must not show in one behind it, be the one between without FAULT or not. */
+    private static void oneBehindAnother() {
+        String full = "flight 2;slip 7;seed 5;person a 1 9;had a 0 4;ladder 0 1 3;go a 3 1;law steep tally*(2+floor);law tire 1;law will 0;";
+        String[] between = {full, "slip 1;slip 1;", "seed 1;seed 1;", full + "!", "law will((1+(2", "law will not 1 or 2<3<4;",
+            "law steep 1+1+1+1+1+1+1+1+1+1+1+1+1+1+1+1+1+1+1+1+1+1+1+1+1+1+1+1+1+1+1+1+1;", "law tire " + times("(", 9), "person a 0 9;flight 1;"};
+        for (String first : between) {
+            StairCount x = new StairCount();
+            Due.text(x, first);
+            Due.is("full behind " + first, Due.text(x, full), 10);
+            Due.is("knots behind " + first, x.count(4), 7);
+            Due.is("law behind " + first, x.law(0, 0, 0), 8);
+            Due.text(x, first);
+            Due.text(x, first);
+            Due.is("full once more behind " + first, Due.text(x, full), 10);
+            Due.is("nothing behind " + first, x.text(0), 0);
+            for (int what = 0; what <= 13; what++) {
+                Due.is("count(" + what + ") of nothing", x.count(what), 0);
+            }
+            Due.is("plain behind " + first, Due.text(x, "flight 2;person b 0 9;go b 0 1;"), 3);
+            Due.are("plain", new long[] {x.law(0, 0, 0), x.law(1, 0, 0), x.law(2, 0, 0), x.steep(0, 0), x.sure(1, 1), x.named(1 << 25)},
+                Long.MIN_VALUE, Long.MIN_VALUE, Long.MIN_VALUE, 2, 1, -1);
+            x.go(1);
+            Due.are("plain behind an HOUR", new long[] {x.count(6), x.count(7), x.count(8), x.count(10)}, 1, 2, 0, 1);
+        }
+    }
+
+    /** The TEXT ends where it is said to, whatever comes behind on the TAPE. */
+    private static void cutShort() {
+        StairCount x = new StairCount();
+        Due.fed(x, "flight 21;");
+        Due.are("a number cut", new long[] {x.text(8), x.fault(0), x.fault(1)}, -1, 1, 8);
+        Due.fed(x, "person abcdefg 0 1;");
+        Due.are("a word cut", new long[] {x.text(13), x.fault(0), x.fault(1)}, -1, 1, 13);
+        Due.fed(x, "law will 1<=2;");
+        Due.are("a sign cut", new long[] {x.text(11), x.fault(0), x.fault(1)}, -1, 1, 11);
+        Due.fed(x, "flight 1;flight 0;");
+        Due.are("a LINE cut", new long[] {x.text(9), x.fault(0), x.fault(1)}, 1, 0, -1);
     }
 
     private static void tokens() {
@@ -193,6 +234,7 @@ public final class TextTest {
         Due.fault("person a 0 0;rope a 100 0;", 2, 20);
         Due.fault("person a 0 0;rope a 0 6;", 2, 22);
         Due.lines("slip 100;seed 99999;", 2);
+        Due.lines("slip 0;seed 0;", 2);
         Due.fault("slip 101;", 2, 5);
         Due.fault("seed 100000;", 2, 5);
     }
@@ -226,6 +268,10 @@ public final class TextTest {
         Due.fault("law", 1, 3);
         Due.fault("law 1 1;", 1, 4);
         Due.fault("law slip 1;", 1, 4);
+        Due.fault("law law 1;", 1, 4);
+        Due.fault("law and 1;", 1, 4);
+        Due.fault("law ;", 1, 4);
+        Due.fault("law will 1<=", 1, 12);
         Due.fault("law will;", 1, 8);
         Due.fault("law will foo;", 1, 9);
         Due.fault("law will 1<2<3;", 1, 12);

@@ -64,6 +64,8 @@ public final class TriedTest {
         Due.are("nobody falls, but by the window", new long[] {x.tried(0, 0, 1), x.tried(1, 0, 1), x.tried(2, 0, 1)}, 1, 0, 0);
         x = Due.of("flight 1;person a 0 9;had a 0 9;go a 0 1;fall a 1;go a 2 1;go a 3 0;");
         Due.are("TALLIES come to be", new long[] {x.tried(1, 0, 1), x.tried(0, 0, 1)}, 1, 0);
+        x = Due.of("flight 3;flight 4;person a 0 3;person b 1 3;had a 0 5;go a 0 1;go b 0 2;");
+        Due.are("TALLIES are 0", new long[] {x.tried(1, 0, 1), x.tried(0, 0, 1)}, 2, 1);
         x = Due.of("flight 1;flight 1;person a 0 5;person b 0 9;law will floor=1 or many=2;go a 0 2;go b 0 1;");
         // b is first by FORCE; by numbers a is, and gets higher
         Due.are("ORDER by FORCE 99", new long[] {x.tried(0, 0, 1), x.tried(4, 0, 1)}, 1, 2);

@@ -23,6 +23,8 @@ public final class WayTest {
         Due.are("STEEP below 0", new long[] {x.way(2, 1, 0), x.way(2, 2, 0)}, 0, -2);
         x = Due.of("flight 3;flight 5;person a 0 9;law will floor=0;ladder 2 0 99;");
         Due.are("no will", new long[] {x.way(0, 1, 0), x.way(0, 2, 0), x.way(0, 2, 1)}, 3, 99, 1);
+        x = Due.of("flight 3;flight 5;person a 0 9;had a 0 2;had a 1 2;law will tally=2;");
+        Due.are("will by TALLY", new long[] {x.way(0, 1, 0), x.way(0, 2, 0)}, 5, 12);
         x = Due.of("flight 3;flight 5;person a 0 9;law will many;ladder 0 1 0;");
         Due.are("FLOORS as now", new long[] {x.way(0, 1, 0), x.way(0, 2, 0)}, 0, -2);
         x = Due.of("flight 1;flight 1;flight 1;person a 3 9;ladder 0 3 0;law will tired=0;");
@@ -42,6 +44,10 @@ public final class WayTest {
     private static void steepest() {
         StairCount x = Due.of("flight 3;flight 9;flight 9;flight 8;person a 0 5;person b 0 4;had b 3 2;");
         Due.are("steepest", new long[] {x.steepest(0), x.steepest(1), x.steepest(2), x.steepest(-1)}, 1, 3, -1, -1);
+        x = Due.of("flight 9;flight 3;flight 9;person a 0 5;");
+        Due.is("steepest of all", x.steepest(0), 0);
+        x = Due.of("flight 5;flight 4;person a 0 5;had a 1 2;law steep(tally=2)*5;");
+        Due.is("steepest by TALLY", x.steepest(0), 1);
         x = Due.of("flight 3;flight 4;person a 0 5;law steep 0-50+floor;");
         Due.is("steepest below 0", x.steepest(0), 1);
         x = Due.of("person a 0 5;");
@@ -54,6 +60,8 @@ public final class WayTest {
         Due.is("wall", x.wall(), 10);
         x = Due.of("flight 3;flight 9;flight 5;flight 9;person a 0 5;person b 3 9;");
         Due.is("FORCE is enough", x.wall(), 0);
+        x = Due.of("flight 5;flight 4;person a 0 4;person b 0 3;");
+        Due.is("FORCE one less", x.wall(), 1);
         x = Due.of("flight 1;flight 1;flight 1;");
         Due.is("nobody", x.wall(), 7);
         Due.is("no FLIGHTS", Due.of("person a 0 0;").wall(), 0);
