@@ -216,6 +216,17 @@ public final class DoneTest {
             x.go(18);
             Due.is("FELL by the same numbers, slip " + slip, x.count(9), fell);
         }
+        for (int slip = 20; slip < 100; slip += 10) {
+            StairCount x = Due.of("seed 55;slip " + slip + ";");
+            Due.text(x, "slip " + slip + ";flight 1;person a 0 9;go a 0 1;");
+            Due.text(x, "slip " + slip + ";flight 1;person a 0 9;go a 0 1;go a 1 0;go a 2 1;");
+            x.go(1);
+            // from 0 on: 12345 by 65536
+            Due.is("without a seed", x.count(9), 1);
+            x.go(2);
+            long second = (12345L * 1103515245 + 12345) % (1L << 31) / 65536 % 100;
+            Due.is("the second number", x.count(9), second < slip ? 2 : 1);
+        }
         long seed = 0;
         while ((seed * 1103515245 + 12345) % (1L << 31) / 65536 % 100 != 99) {
             seed++;

@@ -57,6 +57,8 @@ public final class TriedTest {
         Due.are("tried", new long[] {x.tried(0, 0, 1), x.tried(1, 0, 1), x.tried(2, 0, 1), x.tried(2, 1, 1), x.tried(3, 0, 1),
             x.tried(4, 0, 1)}, 3, 4, 2, 1, 1, 4);
         Due.is("tried for 200", x.tried(0, 0, 200), 3);
+        x.tried(3, 0, 1);
+        Due.is("the LADDERS are there again", x.ahead(1, 0, 1), 2);
         Due.are("nothing is done", new long[] {x.count(5), x.count(6), x.count(8), x.count(10), x.tally(0, 1)}, 0, 1, 0, 0, 3);
         Due.are("no such tried", new long[] {x.tried(-1, 0, 1), x.tried(5, 0, 1), x.tried(0, 1, 1), x.tried(1, -1, 1), x.tried(2, 2, 1),
             x.tried(2, -1, 1), x.tried(0, 0, -1), x.tried(0, 0, 201), x.tried(4, 1, 1)}, -1, -1, -1, -1, -1, -1, -1, -1, -1);
@@ -69,7 +71,7 @@ public final class TriedTest {
         x = Due.of("flight 1;flight 1;person a 0 5;person b 0 9;law will floor=1 or many=2;go a 0 2;go b 0 1;");
         // b is first by FORCE; by numbers a is, and gets higher
         Due.are("ORDER by FORCE 99", new long[] {x.tried(0, 0, 1), x.tried(4, 0, 1)}, 1, 2);
-        x = Due.of("flight 1;person a 0 5;law will force>98;go a 0 1;");
+        x = Due.of("flight 1;person a 0 5;law will force=99;go a 0 1;");
         Due.are("force 99", new long[] {x.tried(0, 0, 1), x.tried(4, 0, 1), x.tried(0, 0, 1)}, 0, 1, 0);
     }
 }
