@@ -7,6 +7,7 @@ public final class TextTest {
         staying();
         starting();
         oneBehindAnother();
+        manyFaults();
         cutShort();
         tokens();
         limits();
@@ -152,6 +153,15 @@ public final class TextTest {
             x.go(1);
             Due.are("plain behind an HOUR", new long[] {x.count(6), x.count(7), x.count(8), x.count(10)}, 1, 2, 0, 1);
         }
+    }
+
+    private static void manyFaults() {
+        StairCount x = new StairCount();
+        for (int i = 0; i < 20; i++) {
+            Due.is("left open", Due.text(x, "law will " + times("(", 8) + "1"), -1);
+        }
+        Due.is("behind many FAULTS", Due.text(x, "flight 1;person a 0 9;law will 1+2*3;"), 3);
+        Due.are("E behind many FAULTS", new long[] {x.law(2, 0, 0), x.count(4)}, 7, 5);
     }
 
     /** The TEXT ends where it is said to, whatever comes behind on the TAPE. */
