@@ -23,6 +23,7 @@ public final class EdgeTextTest {
         howManyLines();
         howManyOpen();
         howManyKnots();
+        allKnotsWait();
         flightsAheadOfAllElse();
         toldAlready();
         notToldAhead();
@@ -396,6 +397,18 @@ public final class EdgeTextTest {
             Due.fault(told + sign.trim() + " 1;", 2, told.length());
         }
         Due.lines(sixtyFour + ";slip 1;", 2);
+    }
+
+    /** As many KNOTS as may be, all of them waiting for the last one. */
+    private static void allKnotsWait() {
+        for (int n = 0; n < 64; n++) {
+            StairCount x = Due.of("flight 1;person a 0 9;law will " + "not ".repeat(n) + "5;");
+            Due.are(n + " times not", new long[] {x.law(2, 0, 0), x.count(4)}, n == 0 ? 5 : (n + 1) % 2, n + 1);
+        }
+        StairCount x = Due.of("flight 1;person a 0 9;law will " + "not(".repeat(8) + "not ".repeat(55) + "5" + ")".repeat(8) + ";");
+        Due.are("63 times not, 8 open", new long[] {x.law(2, 0, 0), x.count(4)}, 0, 64);
+        x = Due.of("flight 1;person a 0 9;law will " + "0 or 1 and 1=0+1*(".repeat(6) + "not tally>5" + ")".repeat(6) + ";");
+        Due.are("as deep as may be", new long[] {x.law(2, 0, 0), x.count(4)}, 1, 64);
     }
 
     /** "a flight behind anything but flight, slip, seed, law". */

@@ -125,6 +125,7 @@ public final class LawTest {
         Due.is("hour", x.law(2, 0, 0), 300);
         x.walk(0, 1);
         Due.is("tired", x.law(2, 0, 0), 307);
+        Due.is("tired of another", x.law(2, 1, 0), 300);
         Due.is("many now", x.law(0, 1, 1), 3);
         Due.is("many there now", x.law(0, 1, 0), 0);
         x.carry(1, 2);

@@ -12,6 +12,7 @@ public final class NoteTest {
         strikesOnly();
         knowing();
         hads();
+        eachOnEach();
         asks();
         asksLater();
         Due.end();
@@ -106,6 +107,16 @@ public final class NoteTest {
         x.note(1, 0, 1, true);
         // 1 and 8 at most
         Due.is("without numbers", x.hads(0, 0), ALL - (1 << 18));
+    }
+
+    /** Each PERSON on each FLIGHT, by a NOTE of each PERSON. */
+    private static void eachOnEach() {
+        StairCount x = Due.of("flight 10;flight 12;person a 0 12;person b 0 15;go a 0 1;go b 1 2;");
+        x.note(1, 0, 1, true);
+        x.note(2, 1, 2, true);
+        // 10 and 2 at most is 12; any; 10 and 5; 12 and 3
+        Due.are("hads", new long[] {x.hads(0, 0), x.hads(0, 1), x.hads(1, 0), x.hads(1, 1)}, 4095, ALL, 32767, 8191);
+        Due.are("ask", new long[] {x.ask(0, 0, 1), x.ask(0, 1, 1), x.ask(1, 0, 1), x.ask(1, 1, 1)}, 12, 19, 15, 13);
     }
 
     private static void asks() {

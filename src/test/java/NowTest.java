@@ -6,6 +6,7 @@ public final class NowTest {
 
     public static void main(String[] args) {
         people();
+        eachOfFour();
         tallies();
         crowds();
         orders();
@@ -39,6 +40,16 @@ public final class NowTest {
         Due.is("no such PERSON, no such what", Due.person(x, 2, 5), -1000);
         Due.is("no such what", Due.person(x, 0, 5), -2000);
         Due.is("no what -1", Due.person(x, 1, -1), -2000);
+    }
+
+    /** What one does shows in nobody else. */
+    private static void eachOfFour() {
+        StairCount x = Due.of("slip 100;flight 3;flight 3;person a 1 9;person b 1 9;person c 1 2;person d 2 9;ladder 0 2 5;rope c 0 0;rope d 0 0;");
+        Due.are("b FELL, c STUCK", new long[] {x.walk(1, 2), x.walk(2, 2), x.go(1)}, 0, 1, 1);
+        Due.are("FLOORS", new long[] {Due.person(x, 0, 0), Due.person(x, 1, 0), Due.person(x, 2, 0), Due.person(x, 3, 0)}, 1, 0, 1, 0);
+        Due.are("TIRED", new long[] {Due.person(x, 0, 2), Due.person(x, 1, 2), Due.person(x, 2, 2), Due.person(x, 3, 2)}, 0, 0, 0, 5);
+        Due.are("STUCK", new long[] {Due.person(x, 0, 3), Due.person(x, 1, 3), Due.person(x, 2, 3), Due.person(x, 3, 3)}, 0, 0, 2, 0);
+        Due.are("FELL", new long[] {Due.person(x, 0, 4), Due.person(x, 1, 4), Due.person(x, 2, 4), Due.person(x, 3, 4)}, 0, 1, 0, 0);
     }
 
     private static void tallies() {

@@ -21,6 +21,10 @@ public final class WayTest {
         x = Due.of("flight 3;flight 5;flight 2;person a 0 4;person b 0 5;person c 0 2;owe c 0 8;");
         Due.are("too steep", new long[] {x.way(0, 1, 0), x.way(0, 2, 0), x.way(0, 3, 1), x.way(1, 3, 0), x.way(1, 3, 1)}, 3, -2, -2, 10, 3);
         Due.are("STEEP below 0", new long[] {x.way(2, 1, 0), x.way(2, 2, 0)}, 0, -2);
+        for (String ladders : new String[] {"ladder 0 1 3;ladder 1 2 4;ladder 2 3 7;", "ladder 1 0 3;ladder 2 1 4;ladder 3 2 7;"}) {
+            x = Due.of("flight 20;flight 20;flight 20;person a 0 0;" + ladders);
+            Due.are("by all of " + ladders, new long[] {x.way(0, 1, 0), x.way(0, 2, 0), x.way(0, 3, 0), x.way(0, 3, 1)}, 3, 7, 14, 3);
+        }
         x = Due.of("flight 3;flight 5;person a 0 9;law will floor=0;ladder 2 0 99;");
         Due.are("no will", new long[] {x.way(0, 1, 0), x.way(0, 2, 0), x.way(0, 2, 1)}, 3, 99, 1);
         x = Due.of("flight 3;flight 5;person a 0 9;had a 0 2;had a 1 2;law will tally=2;");
